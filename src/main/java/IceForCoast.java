@@ -60,8 +60,7 @@ public final class IceForCoast {
         theSea.lay(thePage);
         thePage.clear();
         bergCount = 0;
-        lines.clear();
-        ledger.forgetAll();
+        lines.cutTo(0);
         seasRead++;
         return theSea.squares;
     }
@@ -323,7 +322,8 @@ public final class IceForCoast {
         if (seasRead == 0) {
             return STATE;
         }
-        kept.keep(bergs, bergCount, coins, lines);
+        kept.keep(bergs, bergCount, coins);
+        kept.lineCount = lines.length;
         kept.seaNumber = seasRead;
         return bergCount;
     }
@@ -332,7 +332,8 @@ public final class IceForCoast {
         if (kept.seaNumber == 0 || kept.seaNumber != seasRead) {
             return STATE;
         }
-        kept.giveBack(bergs, coins, lines);
+        kept.giveBack(bergs, coins);
+        lines.cutTo(kept.lineCount);
         ledger.forgetAll();
         bergCount = kept.bergCount;
         return bergCount;
@@ -767,14 +768,16 @@ public final class IceForCoast {
             skirt = withSkirt;
             found = false;
             drawing = false;
-            begin(size);
+            sizeAt[0] = size;
+            footAt[0] = towed.foot;
+            dayAt[0] = 0;
             follow(this, towed.square, 0);
         }
 
+        /** Tows the way just found again, from the same start, by days that are drawn. */
         void towAgain(int firstSeed) {
             drawing = true;
             seed = firstSeed;
-            begin(berg.size);
             int at = berg.square;
             for (int i = 0; i < steps && at != NONE; i++) {
                 pass(i, at, chosen[i]);
@@ -786,12 +789,6 @@ public final class IceForCoast {
 
         int stepAt(int place) {
             return place >= 0 && place < steps ? chosen[place] : NONE;
-        }
-
-        private void begin(int size) {
-            sizeAt[0] = size;
-            footAt[0] = berg.foot;
-            dayAt[0] = 0;
         }
 
         /** Looks at all ways on from a square, n first, so that of like ones the first is found first. */
@@ -1020,15 +1017,8 @@ public final class IceForCoast {
             return true;
         }
 
-        void clear() {
-            length = 0;
-        }
-
-        void copy(Lines other) {
-            System.arraycopy(other.house, 0, house, 0, MOST_LINES);
-            System.arraycopy(other.berg, 0, berg, 0, MOST_LINES);
-            System.arraycopy(other.day, 0, day, 0, MOST_LINES);
-            length = other.length;
+        void cutTo(int many) {
+            length = Math.max(0, Math.min(length, many));
         }
 
         private boolean counts(int place, int onBerg, int cameDay) {
@@ -1064,33 +1054,34 @@ public final class IceForCoast {
         }
     }
 
-    /** What image() keeps: bergs are never taken away but by restore(), so their number is enough. */
+    /**
+     * What image() keeps. Within one sea bergs and lines go by restore() alone, those that came
+     * last, so of both the number is enough, and of bergs what may change.
+     */
     private static final class Image {
         private final int[] sizes = new int[MOST_BERGS];
         private final int[] feet = new int[MOST_BERGS];
         private final Coins coins = new Coins();
-        private final Lines lines = new Lines();
         private int bergCount;
+        private int lineCount;
         // The sea, by its number, that it was made of; 0 while none was kept.
         private int seaNumber;
 
-        void keep(Berg[] bergs, int many, Coins nowCoins, Lines nowLines) {
+        void keep(Berg[] bergs, int many, Coins nowCoins) {
             bergCount = Math.min(many, bergs.length);
             for (int i = 0; i < bergCount; i++) {
                 sizes[i] = bergs[i].size;
                 feet[i] = bergs[i].foot;
             }
             coins.copy(nowCoins);
-            lines.copy(nowLines);
         }
 
-        void giveBack(Berg[] bergs, Coins nowCoins, Lines nowLines) {
+        void giveBack(Berg[] bergs, Coins nowCoins) {
             for (int i = 0; i < bergCount; i++) {
                 bergs[i].size = sizes[i];
                 bergs[i].foot = feet[i];
             }
             nowCoins.copy(coins);
-            nowLines.copy(lines);
         }
     }
 }

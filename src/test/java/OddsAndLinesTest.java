@@ -7,6 +7,7 @@ public final class OddsAndLinesTest {
 
     public static void main(String[] args) {
         letOff();
+        letOffAnew();
         refusedLetOff();
         line();
         claimsOfTheFirst();
@@ -54,6 +55,13 @@ public final class OddsAndLinesTest {
         water(new int[] {30, 2, 0, 5}, 21, 1, 0);
         // By nine tenths: of 30 off 24 (held 21); of 24 off 20; of 20 off 16 (held 14.6); held (9 * 16 + 24) / 10.
         water(new int[] {30, 2, 0, 9}, 20, 1, 1);
+    }
+
+    private static void letOffAnew() {
+        IceForCoast ice = new IceForCoast();
+        Check.due("let off", ice.letOff(100, 1, 10, 9, 2), 1);
+        Check.due("no day is to go: not", ice.letOff(100, 0, 10, 9, 2), 0);
+        Check.due("of another size", ice.letOff(30, 1, 0, 5, 0), 25);
     }
 
     private static void refusedLetOff() {

@@ -84,6 +84,17 @@ public final class PageTest {
         Check.write(ice, "h1/23");
         Check.due("blank(): letters begin anew", ice.fault(), 5);
         Check.due("blank(): a sea behind it", ice.sea(), 4);
+        Check.write(ice, "1");
+        Check.due("fault(): a warmth", ice.fault(), 1);
+        ice.blank();
+        Check.write(ice, "n");
+        Check.due("fault(): no current behind a warmth that is gone", ice.fault(), 0);
+        ice.blank();
+        Check.write(ice, "123/");
+        Check.due("fault(): a row", ice.fault(), 4);
+        ice.blank();
+        Check.write(ice, "h2/34/");
+        Check.due("fault(): rows anew", ice.fault(), 6);
     }
 
     private static void faultOf(String text, int want) {
@@ -181,6 +192,10 @@ public final class PageTest {
         Check.due("another sea: two read", ice.count(7), 2);
         Check.due("another sea: land", ice.square(0, 0), 11);
         Check.due("another sea: its current", ice.square(5, 1), -1);
+        int[] far = {4, 3, 2, 3, 2, 1, 2, 1, 0};
+        for (int i = 0; i < 9; i++) {
+            Check.due("another sea: how far " + i + " is", ice.square(i, 2), far[i]);
+        }
         Check.write(ice, "1h/23");
         Check.due("a smaller sea", ice.sea(), 4);
         Check.due("a smaller sea: no square more", ice.square(4, 0), UNKNOWN);

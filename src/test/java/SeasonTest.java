@@ -13,6 +13,7 @@ public final class SeasonTest {
         likeBest();
         refusedBest();
         season();
+        seasonWithSkirts();
         likeSeasons();
         seasonWithoutGain();
         refusedSeasons();
@@ -108,6 +109,20 @@ public final class SeasonTest {
         Check.due("a third berg", ice.season(11, 3), 3);
     }
 
+    private static void seasonWithSkirts() {
+        IceForCoast ice = Check.at("9h/00");
+        ice.coin(2, 1);
+        ice.berg(0, 0, 100, 99, 0);
+        ice.berg(0, 3, 15, 99, 0);
+        // By six tugs one day: 10 melt, 7 with a skirt: 279 - 6 - 1; the second needs none: 14 of 15.
+        Check.due("skirts: season(7)", ice.season(7, 0), 272 + 41);
+        Check.due("skirts: best", ice.best(0, 1), 1);
+        Check.due("skirts: the first", ice.season(7, 1), 6);
+        Check.due("skirts: the second", ice.season(7, 2), 1);
+        ice.coin(2, 99);
+        Check.due("no skirts: season(7)", ice.season(7, 0), 264 + 41);
+    }
+
     private static void likeSeasons() {
         IceForCoast ice = Check.at("0h/00");
         for (int i = 0; i < 3; i++) {
@@ -166,6 +181,7 @@ public final class SeasonTest {
         }
         Check.due("the second tug is for the second berg", ice.more(1), 165);
         Check.due("the eleventh is for nothing", ice.more(10), 0);
+        Check.due("there is no twelfth", ice.more(11), OUTSIDE);
     }
 
     private static void came() {

@@ -161,13 +161,16 @@ public final class ToldTest {
         long alone = fold(h, 0, -1, -1, -1, -1, -1, 4, 0, 0, 0, 3, 1, 20, 1, 0);
         Check.due("digest() of a sea", ice.digest(), alone);
         ice.berg(0, 0, 100, 50, 0);
-        ice.line(3, 0, 77);
+        ice.berg(1, 3, 15, 60, 0);
+        ice.line(3, 1, 77);
         Check.write(ice, "q");
         // By three tugs 97 in two days; best by six in one.
         h = fold(h, 0, 0, 100, 50, 0, 1, 97, 2, 285, 1, 6, 0, 288);
-        h = fold(h, 285, 3, -1, -1, -1, -1);
-        h = fold(h, 3, 0, 77, 'q');
-        h = fold(h, 4, 1, 1, 1, 3, 1, 20, 1, 0);
+        // The other one goes against the current: 13 in two days.
+        h = fold(h, 1, 3, 15, 60, 0, 1, 13, 2, 33, 1, 1, 0, 37);
+        h = fold(h, 285 + 37, 3, 1, -1, -1, -1);
+        h = fold(h, 3, 1, 77, 'q');
+        h = fold(h, 4, 2, 1, 1, 3, 1, 20, 1, 0);
         Check.due("digest() of all", ice.digest(), h);
         Check.due("digest() again", ice.digest(), h);
         shutIn();

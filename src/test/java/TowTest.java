@@ -185,6 +185,10 @@ public final class TowTest {
         for (int i = 0; i < 4; i++) {
             Check.due("of like ways n ahead of w: step " + i, up.tow(0, 5, false, 10 + i), north[i]);
         }
+        IceForCoast top = Check.at("h0/00/00");
+        top.berg(0, 4, 100, 99, 0);
+        Check.due("two up", top.tow(0, 5, false, 3), 2);
+        Check.due("two up: one way", top.ways(0), 1);
         IceForCoast down = Check.at("00h/000/000");
         down.berg(0, 6, 100, 99, 0);
         Check.due("of like ways n ahead of e", down.tow(0, 5, false, 10), 0);
@@ -269,7 +273,22 @@ public final class TowTest {
         Check.due("drawn: from the greatest seed", ice.drawn(0, 11, false, MAX, 2),
             (1103515245L * MAX + 12345) % 2147483648L);
         Check.due("drawn: tow() as before", ice.tow(0, 5, false, 0), 89);
+        drawnOnTheWay();
         coldDraws();
+    }
+
+    /** Two steps of a day each, through warmth 2 and 9: a draw of the day on top of either. */
+    private static void drawnOnTheWay() {
+        IceForCoast ice = Check.at("29h/###");
+        ice.berg(0, 0, 100, 99, 0);
+        for (int seed = 0; seed < 20; seed++) {
+            long first = (1103515245L * seed + 12345) % 2147483648L;
+            long second = (1103515245L * first + 12345) % 2147483648L;
+            int left = 100 - 1 - (2 + (int) (first / 65536 % 3) - 1);
+            left -= 1 + (9 + (int) (second / 65536 % 3) - 1) * left / 100;
+            Check.due("drawn on the way from " + seed, ice.drawn(0, 11, false, seed, 0), left);
+            Check.due("drawn on the way: seed", ice.drawn(0, 11, false, seed, 2), second);
+        }
     }
 
     /** Where it is 0, a draw of 0 leaves it 0: 1 melts a day, and one more by each 1 of 100. */
