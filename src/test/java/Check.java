@@ -14,6 +14,18 @@ final class Check {
         }
     }
 
+    /** A call, made when refused() wants its answer. */
+    interface Call {
+        long answer();
+    }
+
+    /** A call that is refused: the refusal, and that nothing that is told changes by it. */
+    static void refused(IceForCoast ice, String told, Call call, long want) {
+        long before = ice.digest();
+        due(told, call.answer(), want);
+        due(told + ": the digest() behind it", ice.digest(), before);
+    }
+
     static void holds(String claim, boolean held) {
         due(claim, held ? 1 : 0, 1);
     }
