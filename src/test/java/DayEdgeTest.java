@@ -165,15 +165,12 @@ public final class DayEdgeTest {
         // 91, 73; 73 - 6; 67 - 6, 49.
         towedOn("8h/##", new int[] {BERG, 100, 8, 0}, 2, false, 49, 3);
         towedOn("8h/##", new int[] {BERG, 100, 8, 0}, 3, false, 67, 2);
-        // 95, 76; 76 - 4; 72 - 3; 69 - 3, 53: 9 is 5, then 1, then 0.
-        towedOn("4h/##", new int[] {BERG, 79, 4, 0}, 1, false, fourDaysInFour(), 4);
+        // 79 - 4 is 75, over: 60; 60 - 3; 57 - 3; 54 - 3 is 51, over: 41. Its foot is 9, 5, 1, 0.
+        // 59 - 3 is 56, over: 45; 45 - 2; 43 - 2: it has not turned over again.
+        towedOn("4h/##", new int[] {BERG, 79, 4, 0}, 1, false, 41, 4);
+        towedOn("4h/##", new int[] {BERG, 59, 4, 0}, 1, false, 41, 3);
         // Without warmth once and no more: 99, 80; 79; 78.
         towedOn("0h/##", new int[] {BERG, 100, 0, 0}, 2, false, 78, 3);
-    }
-
-    /** 79 - 4 is 75, over: 60; 60 - 3; 57 - 3; 54 - 3 is 51, over: 41. */
-    private static int fourDaysInFour() {
-        return 41;
     }
 
     /** "a ROLLED does not" */
@@ -209,13 +206,10 @@ public final class DayEdgeTest {
         for (int[] one : left) {
             towedOn("0h/##", new int[] {ROTTEN, one[0] + 2, 99, 2}, 2, false, one[1], 2);
         }
-        // Behind the turning over: 51, 50, over 40; of 40 a tenth is 4, of 50 it were 5.
-        towedOn("00h/###", new int[] {ROTTEN, 52, 0, 2}, 11, false, secondDayOfTurned(), 2);
-    }
-
-    /** 52: 51, over: 41; 40, a tenth of it: 36. */
-    private static int secondDayOfTurned() {
-        return 36;
+        // Behind the turning over: 51, over: 41; 40, a tenth of it.
+        towedOn("00h/###", new int[] {ROTTEN, 52, 0, 2}, 11, false, 36, 2);
+        // On one day 40, over: 32, a tenth of it: 28; the other way about 36 and 29 were left.
+        towedOn("01h/###", new int[] {ROTTEN, 42, 1, 2}, 11, false, 28, 2);
     }
 
     // ---- TOWED

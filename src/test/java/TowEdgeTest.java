@@ -406,6 +406,11 @@ public final class TowEdgeTest {
             Check.due("drawn from " + seed, ice.drawn(0, 11, false, seed, 0), 95 - draw(seed));
         }
         Check.holds("all three were drawn", seen[0] && seen[1] && seen[2]);
+        // With a skirt 5, 6 and 7 are 4, 4 and 5.
+        int[] withSkirt = {96, 96, 95};
+        for (int seed = 0; seed < 20; seed++) {
+            Check.due("with a skirt from " + seed, ice.drawn(0, 11, true, seed, 0), withSkirt[draw(seed)]);
+        }
         // 12345 is below 65536: a draw of 0. The seeds are such that the next is just below and at 65536 times 1, 2, 3.
         for (int times = 1; times <= 4; times++) {
             for (long due : new long[] {65536L * times - 1, 65536L * times}) {
